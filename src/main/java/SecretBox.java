@@ -13,7 +13,7 @@ public final class SecretBox {
     private static final int MOST_KNOWN = 8, MOST_DRIFTS = 40, MOST_FILES_SLIDES = 60, MOST_FUMBLES = 3;
     private static final int MOST_CLICKS = 8, SO_AS_IT_IS = 64;
     private static final int MOST_STATES = 1024, MOST_MOVES = 10;
-    private static final int ROWS_LEFT_OVER_BY = 1000003;
+    private static final int ROWS_LEFT_OVER_BY = 1000003, LOWEST_31_BITS = 0x7fffffff;
     private static final int NEITHER = 0, WINS = 1, LOSES = 2;
     private static final int MOST_LETTERS = 90, FIRST_LETTER = 32, LAST_LETTER = 126, FAULT = -20;
     private static final int MOST_SHEETS = 4, LANES = 4, MOST_ITEMS = 24;
@@ -540,7 +540,7 @@ public final class SecretBox {
 
         void driftOnce() {
             remember();
-            draw = draw * 1103515245 + 12345 & Integer.MAX_VALUE;
+            draw = draw * 1103515245 + 12345 & LOWEST_31_BITS;
             if (panels == 0) return;
             int panel = draw / 65536 % panels;
             int toWay = draw / 128 % 2;
@@ -716,7 +716,7 @@ public final class SecretBox {
         /** Walks from this STATE with these LOCKS FILED; what was walked last is not walked again. */
         void from(int state, int filedNow) {
             if (state < 0 || state >= MOST_STATES) return;
-            boolean isWalked = !box.isRecast && reached > 0 && start == state && filed == filedNow;
+            boolean isWalked = !box.isRecast && start == state && filed == filedNow;
             if (isWalked) return;
             if (box.isRecast) chart();
             start = state;

@@ -11,6 +11,7 @@ public final class ForetoldTest {
         games();
         fumbles();
         images();
+        whatMayBeUndone();
         restored();
         withoutPanels();
         nothingIsChanged();
@@ -68,6 +69,16 @@ public final class ForetoldTest {
         due("17 rows of like states", Check.made("p2,p2,p1!;2>02,2>12").rows(), 6);
         due("17 no row", Check.made("p1,p1!;1>01,0>11").rows(), 0);
         due("17 four by three steps", Check.made("p3,p3,p3,p3,p1!;4>03,4>13,4>23,4>33").rows(), 369600);
+        // Three panels go out (1680 rows), let the fourth out, go in again (1680 rows), and the ring opens.
+        SecretBox many = Check.made("p3,p3,p3,p1,r1!;3>03,3>13,3>23");
+        due("17 twenty slides", many.opens(-1), 20);
+        due("17 left over", many.rows(), 1680 * 1680 % 1000003);
+        SecretBox both = Check.made("p3,p3,p3,p3,r1!");
+        Check.slides(both, 31, 31);
+        for (int other = 0; other < 3; other++) both.lock(3, 2, other, 8);
+        both.lock(4, 1, 3, 2 + 8);
+        due("17 twenty slides, either way", both.opens(-1), 20);
+        due("17 left over of two states", both.rows(), 2 * 1680 * 1680 % 1000003);
         SecretBox x = Check.made("p1");
         due("17 one row", x.rows(), 1);
         x.slide(0, 1);
@@ -279,6 +290,40 @@ public final class ForetoldTest {
         x.restore();
         due("24 the later one", x.count(7), 2);
         due("24 the later one", x.count(8), 4);
+    }
+
+    /** An image keeps where panels were, what was filed, the draw of each time that may be undone. */
+    private static void whatMayBeUndone() {
+        SecretBox x = Check.made("p3,p3;0<10,1<00");
+        Check.slides(x, 1, 11);
+        x.file(1);
+        x.seed(300);
+        x.drift(1);
+        x.file(0);
+        int drawn = x.seed(40);
+        int state = x.count(7);
+        x.image();
+        Check.read(x, "s1,s1,s1");
+        x.seed(5);
+        x.drift(8);
+        x.restore();
+        due("24 known", x.count(8), 5);
+        due("24 the draw", x.seed(41), 40);
+        due("24 undone", x.undo(), 4);
+        due("24 filed then", x.count(5), 2);
+        due("24 the draw then", x.seed(42), drawn);
+        due("24 the state then", x.count(7), state);
+        due("24 undone", x.undo(), 3);
+        due("24 the draw then", x.seed(43), 300);
+        due("24 the state then", x.count(7), 5);
+        due("24 undone", x.undo(), 2);
+        due("24 not filed then", x.count(5), 0);
+        due("24 the draw then", x.seed(44), 1);
+        due("24 undone", x.undo(), 1);
+        due("24 the state then", x.count(7), 1);
+        due("24 undone", x.undo(), 0);
+        due("24 the state then", x.count(7), 0);
+        due("24 none", x.undo(), SecretBox.NONE);
     }
 
     private static void restored() {

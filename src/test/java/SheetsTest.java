@@ -172,6 +172,9 @@ public final class SheetsTest {
         due("26 neither 0 nor 1", clicks(x, 0, 1, 2), SecretBox.NOT);
         due("26 neither 0 nor 1", clicks(x, 0, 1, -1), SecretBox.NOT);
         due("26 NOT, though not so ahead of it", clicks(x, 0, 1, 0, 1, 2), SecretBox.NOT);
+        Check.ints(x, 99, 1, 1, 99, 7);
+        due("26 items ahead and behind are no pair's", x.clicks(0, 0, 2, 1, 1), 31);
+        due("26 items ahead and behind are no pair's", x.clicks(SecretBox.NONE, 0, 2, 1, 1), 64);
         x.sheet(0, 3, 2);
         x.item(0, 3, 0, (1L << 32) + 1);
         due("26 a long one", x.clicks(0, 0, 3, 0, 1), SecretBox.NOT);
