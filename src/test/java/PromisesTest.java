@@ -254,6 +254,9 @@ public final class PromisesTest {
         range("slide(v, 1)", FIVE, (y, v) -> y.slide(v, 1), 0, 4);
         range("slide(0, v)", "p1", (y, v) -> y.slide(0, v), 0, 1);
         due("without panels", new SecretBox().slide(0, 1), BAD);
+        SecretBox ways = Check.made("p3");
+        Check.slides(ways, 1);
+        for (int way : new int[] {-1, 2, 3}) due("way " + way, ways.slide(0, way) * 10 + ways.count(7), 10 * BAD + 1);
         SecretBox y = Check.made("p1,p1;1>01");
         due("no place below", y.slide(0, 0), NOT);
         due("a lock", y.slide(1, 1), NOT);
@@ -488,14 +491,17 @@ public final class PromisesTest {
         doc.edge("## Promise 23: image `int image()`: All but SHEETS, THE TAPE is kept as an IMAGE (what may be UNDONE, too): 1.");
         SecretBox x = Check.made("p3,s3,l3!;0<11,1>00");
         x.seed(66);
+        x.file(0);
         for (int k = 0; k < 3; k++) Check.slides(x, 11, 1, 21);
         x.file(1);
         x.seed(67);
+        x.lid(1);
         String before = Check.seen(x);
         x.sheet(1, 1, 11);
         x.type('r');
         due("an image", x.image(), 1);
         due("nothing is changed", Check.seen(x).equals(before) ? 1 : 0, 1);
+        x.lid(0);
         x.sheet(1, 2, 12);
         x.type('2');
         due("another box", x.box(), 1);
@@ -508,6 +514,7 @@ public final class PromisesTest {
         for (int k = 7; k >= 0; k--) due("what may be undone", x.undo(), k);
         due("the draw of the first of them", x.seed(0), 66);
         due("where panels were", x.count(7), 0);
+        due("which locks were filed", x.count(5), 1);
         due("a later image", x.image(), 1);
         Check.slides(x, 21);
         x.restore();
@@ -574,6 +581,10 @@ public final class PromisesTest {
             x.item(0, 0, 0, place);
             due("place " + place + " of 2", x.to(0, 0, 0, -1), places[place + 1]);
         }
+        for (long place : new long[] {1L << 32, -1L << 32, (1L << 32) + 1, Long.MIN_VALUE, Long.MAX_VALUE}) {
+            x.item(3, 3, 0, place);
+            due("place " + place, x.to(3, 3, 0, -1), NOT);
+        }
     }
 
     private static void clicks() {
@@ -630,12 +641,12 @@ public final class PromisesTest {
             due("the item ahead of them stays", x.to(lane, lane, 18, -1), NOT);
         }
         SecretBox one = Check.made("p1");
-        Check.ints(one, 0, 0, 0);
+        Check.ints(one, 1, 0, 1);
         Check.slides(one, 1);
         due("one panel", one.film(0, 2, 1), 1);
-        due("the one ahead", one.to(0, 2, 0, -1), 1);
+        due("the one ahead", one.to(0, 2, 0, -1), 0);
         due("the one", one.to(0, 2, 1, -1), 0);
-        due("the one behind", one.to(0, 2, 2, -1), 1);
+        due("the one behind", one.to(0, 2, 2, -1), 0);
 
         doc.edge("BAD (no PANELS, too); NULL; CAST; INDEX.");
         range("film(v, 0, 0)", "p1", (y, v) -> y.film(v, 0, 0), 0, 3);

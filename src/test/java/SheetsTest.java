@@ -285,9 +285,9 @@ public final class SheetsTest {
     }
 
     private static void lanes() {
-        SecretBox x = Check.made("p3");
         int[] bits = {8, 16, 32, 64};
         for (int lane = 0; lane < 4; lane++) {
+            SecretBox x = Check.made("p3");
             for (int high = 4; high < 64; high++) {
                 int due = high >= bits[lane] ? 1 : SecretBox.NOT;
                 dueAsPlace(x, lane, (1L << high) + 1, due);
@@ -296,6 +296,7 @@ public final class SheetsTest {
             dueAsPlace(x, lane, 3, 3);
             dueAsPlace(x, lane, Long.MIN_VALUE, lane == 3 ? SecretBox.NOT : 0);
         }
+        SecretBox x = Check.made("p3");
         dueAsPlace(x, 0, 0x80, SecretBox.NOT);
         dueAsPlace(x, 1, 0x8000, SecretBox.NOT);
         dueAsPlace(x, 2, 0x80000000L, SecretBox.NOT);

@@ -30,6 +30,7 @@ public final class TermsForetoldTest {
         Check.slides(x, 1, 11, 31);
         due("from now", x.opens(-1), 1);
         due("from now", x.reach(2), 0);
+        x.file(1);
         String before = Check.seen(x);
         Check.ints(x, 1, 1, 1, 1, 1, 0);
         for (int k = -2; k < 3; k++) foretellAll(x, k);
@@ -41,6 +42,7 @@ public final class TermsForetoldTest {
         before = Check.seen(none);
         for (int k = -2; k < 3; k++) foretellAll(none, k);
         due("without panels, is all as it was", Check.seen(none).equals(before) ? 1 : 0, 1);
+        foretoldAnew();
 
         doc.edge("a STATE is at which PLACES all PANELS are.");
         due("most places of most panels", Check.made("p3,p3,p3,p3,p3").reach(0), 1024);
@@ -50,6 +52,40 @@ public final class TermsForetoldTest {
         filed.seed(99);
         filed.lid(1);
         due("whatever THE LID, THE DRAW are", filed.reach(0), states);
+    }
+
+    /** What was foretold of one box, lock, lid, state is not what is foretold of the next. */
+    private static void foretoldAnew() {
+        SecretBox x = Check.made("p1,p1,p1!;2>01,2>11");
+        dueAnew("at first", x, 3, 2, 8);
+        Check.slides(x, 1);
+        dueAnew("behind a slide", x, 2, 1, 8);
+        x.undo();
+        dueAnew("behind an undo", x, 3, 2, 8);
+        x.file(0);
+        dueAnew("behind a file", x, 2, 1, 8);
+        x.undo();
+        x.image();
+        x.lock(0, 1, 1, 2);
+        dueAnew("behind a lock", x, 3, 1, 8);
+        x.lid(1);
+        dueAnew("behind a lid", x, 1, 1, 8);
+        x.panel(0, 3);
+        dueAnew("behind a panel", x, 1, 1, 32);
+        Check.read(x, "p2");
+        dueAnew("behind a box", x, 2, 1, 3);
+        x.restore();
+        dueAnew("behind an image", x, 3, 2, 8);
+        Check.slides(x, 1, 11);
+        dueAnew("behind two slides", x, 1, 1, 8);
+        x.shut();
+        dueAnew("behind all are shut", x, 3, 2, 8);
+    }
+
+    private static void dueAnew(String when, SecretBox x, int slides, int rows, int states) {
+        due("opens " + when, x.opens(-1), slides);
+        due("rows " + when, x.rows(), rows);
+        due("reach " + when, x.reach(0), states);
     }
 
     private static void foretellAll(SecretBox x, int k) {
@@ -262,8 +298,10 @@ public final class TermsForetoldTest {
 
         doc.edge("the fewest LOCKS that are not FILED which should be so that THE BOX OPENS by n SLIDES or fewer,");
         SecretBox x = Check.made("p1,p1,p1!;0>11,1>01,2>01");
-        dueFiles("fewest, not the least set", x, 1, 1, 4);
-        dueFiles("one more slide", x, 2, 1, 1);
+        dueFiles("the last for one slide", x, 1, 1, 4);
+        dueFiles("the first for one slide more", x, 2, 1, 1);
+        dueFiles("one, though two are a lesser set", Check.made("p1,p1,p1!;0>11,0>11,2>01"), 2, 1, 4);
+        dueFiles("one, two behind those two", Check.made("p1,p1,p1!;0>11,0>11,1<00,2>01"), 2, 1, 8);
         SecretBox twice = Check.made("p1!,p1;0>11,0>11,1>01,1>01");
         dueFiles("two", twice, 1, 2, 3);
         twice.file(0);
@@ -302,6 +340,13 @@ public final class TermsForetoldTest {
         SecretBox now = Check.made("p2");
         Check.slides(now, 1);
         dueGame("from now", now, 1, 1, 1);
+        SecretBox lids = Check.made("p2,p1");
+        lids.lock(1, 2, 0, 8);
+        dueGame("by one lid", lids, 2, 2, 1);
+        lids.lid(1);
+        dueGame("by another lid", lids, 0, 0, 1);
+        lids.lid(0);
+        dueGame("by the one lid again", lids, 2, 2, 1);
 
         doc.edge("whoever makes THE BOX OPEN wins;");
         dueGame("at once", Check.made("p1"), 1, 1, 1);
@@ -353,6 +398,9 @@ public final class TermsForetoldTest {
         dueGame("two that lose by 2", Check.made("r2,p2!;1>00,0<12"), 2, 2, 1);
         dueGame("the least would lose", Check.made("p2!,p1"), 0, 0, 11);
         dueGame("two by which neither does", Check.made("p2!,p1,p1"), 0, 0, 11);
+        SecretBox in = Check.made("p3");
+        Check.slides(in, 1);
+        dueGame("the very least", in, 0, 0, 0);
         dueGame("the last of five", Check.made("p2,p2,p2,p2,p1!"), 1, 1, 41);
 
         doc.edge("none: it is OPEN, none can be done.");

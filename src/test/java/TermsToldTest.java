@@ -196,6 +196,7 @@ public final class TermsToldTest {
         due("a new lock", x.undo(), NONE);
         due("all stay where they are", x.count(7), 5);
         Check.slides(x, 21);
+        clicks(x, 0, 20, 1);
         Check.read(x, "p2");
         due("a box", x.count(8), 0);
         due("a box", x.undo(), NONE);
@@ -338,6 +339,10 @@ public final class TermsToldTest {
         dueBox("p1,p1,p1,p1,p1;4<50", -37);
         dueBox("p1,p1,p1,p1,p1;4<30", 5);
         dueBox("p1;0<00", -25);
+        dueBox("p1,p1;0", -27);
+        dueBox("p1,p1;0,", -27);
+        dueBox("p1,p1;0<", -28);
+        dueBox("p1,p1;0<,", -28);
         dueBox("p1;1<00", -23);
         SecretBox x = Check.made("p1,p1;0<11,0>11,0=11");
         for (int l = 0; l < 3; l++) due("way of " + l, x.at(l, 1), l);
@@ -385,6 +390,24 @@ public final class TermsToldTest {
         due("the image as it was", x.count(7) * 10 + x.count(5), 491);
         due("the image keeps the draw", x.seed(0), 4000);
         due("no image stays none", Check.made("p1").restore(), NONE);
+        inPlaceOfWhatWasTried();
+    }
+
+    /** KINDS that were tried ahead of a BOX leave nothing in it. */
+    private static void inPlaceOfWhatWasTried() {
+        SecretBox x = Check.made("p3,p3,p3!;0<10,1<00");
+        Check.slides(x, 1, 21, 21, 21);
+        x.file(1);
+        due("kinds", clicks(x, 1, 21, 0), 31);
+        x.seed(4000);
+        Check.read(x, "l1,l1,l1;1<01");
+        due("all in", x.count(4) + x.count(7), 0);
+        due("none filed", x.count(5), 0);
+        due("locks", x.count(1), 1);
+        due("the lid", x.count(2), 0);
+        due("nothing to be undone", x.count(8), 0);
+        due("the kind", x.of(1, 0), 3);
+        due("the draw stays", x.seed(1), 4000);
     }
 
     private static void faults() {
