@@ -95,5 +95,10 @@ public final class FaceTest {
         String source = Files.readString(Path.of(SOURCE));
         for (String word : WORDS_LEFT_OUT) due("without \"" + word + "\"", !source.contains(word));
         due("signs 1 to 127", source.chars().allMatch(sign -> sign < 128));
+        // All calls of a run live in one room: what is made with the object once can't fill it.
+        for (String line : source.split("\n")) {
+            if (!line.matches(".*\\bnew \\w+[\\[(].*")) continue;
+            due("made with the object: " + line, line.trim().matches("(private )?final \\w+(\\[\\])? \\w+ = .*;"));
+        }
     }
 }

@@ -26,7 +26,7 @@ final class Reading {
     private static String part(String from, String upTo) {
         if (!Files.isReadable(DOC)) return "";
         try {
-            String all = Files.readString(DOC).replace("```text", " ").replace("```", " ").replaceAll("\\s+", " ");
+            String all = Files.readString(DOC).replaceAll("```[a-z]*", " ").replaceAll("\\s+", " ");
             int start = all.indexOf(from);
             int end = all.indexOf(upTo, start + 1);
             return start < 0 || end < 0 ? from + " .. " + upTo + " is not in the document" : all.substring(start, end).trim();
